@@ -192,6 +192,9 @@ public final class PromisesTest {
             due.is("shape(" + a + ") after an update", x.shape(a, Due.packed(1, 0, 0, 1)), false);
         }
         due.is("after refused shapes", Due.answers(x), Due.answers(y));
+        RoundArchive early = new RoundArchive(GAUGE, 6, 1);
+        feed(early, 0);
+        due.is("shape(0) after an update at time 1", early.shape(0, first), false);
         due.is("HIGH of two", x.row(0, 2), 23);
         due.is("LOW of three", x.row(1, 1), -42);
     }
