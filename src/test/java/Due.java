@@ -9,14 +9,72 @@ final class Due {
     /** Numbers that name no archive. */
     static final int[] NO_ARCHIVE = {-1, 2, 3, Integer.MIN_VALUE, Integer.MAX_VALUE};
 
+    private String sentence = "";
     private int looked = 0;
     private int wrong = 0;
+
+    /** The test of one sentence of the document: what goes wrong in it is printed with it, and the others still run. */
+    void test(String words, Runnable body) {
+        sentence = "[" + words + "] ";
+        int before = looked;
+        try {
+            body.run();
+        } catch (RuntimeException thrown) {
+            is("a call", thrown, "no exception");
+        }
+        if (looked == before) {
+            is("the test", "nothing", "something");
+        }
+    }
 
     void is(String what, Object got, Object want) {
         looked++;
         if (!got.equals(want)) {
             wrong++;
-            System.out.println(what + " answered " + got + ", due is " + want);
+            System.out.println(sentence + what + " answered " + got + ", due is " + want);
+        }
+    }
+
+    /** The moments from the first one on. */
+    void moments(RoundArchive x, int first, int... values) {
+        for (int i = 0; i < values.length; i++) {
+            is("moment(" + (first + i) + ")", x.moment(first + i), values[i]);
+        }
+    }
+
+    /** The rows of an archive from the first one on. */
+    void rows(RoundArchive x, int a, int first, int... values) {
+        for (int i = 0; i < values.length; i++) {
+            is("row(" + a + ", " + (first + i) + ")", x.row(a, first + i), values[i]);
+        }
+    }
+
+    /** One update a moment, from the moment after the last update on. */
+    void feed(RoundArchive x, int... values) {
+        for (int v : values) {
+            int t = x.lastTime() + 1;
+            is("update(" + t + ", " + v + ")", x.update(t, v), true);
+        }
+    }
+
+    /** A gauge whose archive 0 is shaped and whose archive 1 is as it was at first. */
+    RoundArchive shaped(int width, int heartbeat, int packed) {
+        RoundArchive x = new RoundArchive(0, width, heartbeat);
+        is("shape(0, " + packed + ")", x.shape(0, packed), true);
+        return x;
+    }
+
+    /**
+     * Step after step for an object with width 2 and heartbeat 1, UNKNOWN for a step that is not known:
+     * there each step can be known or not whatever its neighbours are.
+     */
+    static void feedSteps(RoundArchive x, int... values) {
+        for (int v : values) {
+            int t = x.lastTime();
+            if (v != RoundArchive.UNKNOWN) {
+                x.update(t + 1, v);
+            }
+            x.update(t + 2, v == RoundArchive.UNKNOWN ? 99 : v);
         }
     }
 

@@ -47,20 +47,6 @@ public final class PromisesTest {
         due.is("LAST", RoundArchive.LAST, 3);
     }
 
-    /** One update a moment, from the moment after the last update on. */
-    private static void feed(RoundArchive x, int... values) {
-        for (int v : values) {
-            int t = x.lastTime() + 1;
-            due.is("update(" + t + ", " + v + ")", x.update(t, v), true);
-        }
-    }
-
-    private static RoundArchive shaped(int width, int heartbeat, int packed) {
-        RoundArchive x = new RoundArchive(GAUGE, width, heartbeat);
-        due.is("shape(0, " + packed + ")", x.shape(0, packed), true);
-        return x;
-    }
-
     private static void promise1Kind() {
         for (int kind : new int[] {Integer.MIN_VALUE, -1, 0}) {
             RoundArchive x = new RoundArchive(kind, 1, 1);
@@ -123,7 +109,7 @@ public final class PromisesTest {
             due.is("new: peak", x.peak(a), UNKNOWN);
             due.is("new: known", x.known(a), 0);
         }
-        feed(x, 1, 1, 2, 2, 3, 3, 4, 4, 5, 5, 6);
+        due.feed(x, 1, 1, 2, 2, 3, 3, 4, 4, 5, 5, 6);
         for (int a = 0; a < 2; a++) {
             due.is("span 1: rows", x.rows(a), 5);
             due.is("room 4: row 0", x.row(a, 0), NONE);
@@ -186,14 +172,14 @@ public final class PromisesTest {
         due.is("update(1, 1001)", x.update(1, 1001), false);
         due.is("shape(0) before an update", x.shape(0, first), true);
         int[] values = {4, -8, 15, -16, 23, -42, 7};
-        feed(x, values);
-        feed(y, values);
+        due.feed(x, values);
+        due.feed(y, values);
         for (int a = 0; a < 2; a++) {
             due.is("shape(" + a + ") after an update", x.shape(a, Due.packed(1, 0, 0, 1)), false);
         }
         due.is("after refused shapes", Due.answers(x), Due.answers(y));
         RoundArchive early = new RoundArchive(GAUGE, 6, 1);
-        feed(early, 0);
+        due.feed(early, 0);
         due.is("shape(0) after an update at time 1", early.shape(0, first), false);
         due.is("HIGH of two", x.row(0, 2), 23);
         due.is("LOW of three", x.row(1, 1), -42);
@@ -202,7 +188,7 @@ public final class PromisesTest {
     private static void promise2EachArchiveItsOwn() {
         RoundArchive x = new RoundArchive(GAUGE, 1, 5);
         due.is("shape(1)", x.shape(1, Due.packed(4, RoundArchive.LAST, 3, 8)), true);
-        feed(x, 1, 2, 3, 4, 5, 6, 7, 8);
+        due.feed(x, 1, 2, 3, 4, 5, 6, 7, 8);
         due.is("rows(0), not shaped", x.rows(0), 8);
         due.is("known(0), not shaped", x.known(0), 4);
         due.is("rows(1), shaped", x.rows(1), 2);
@@ -263,22 +249,16 @@ public final class PromisesTest {
         }
     }
 
-    private static void momentsAre(RoundArchive x, int first, int... values) {
-        for (int i = 0; i < values.length; i++) {
-            due.is("moment(" + (first + i) + ")", x.moment(first + i), values[i]);
-        }
-    }
-
     private static void promise5Gauge() {
         RoundArchive x = new RoundArchive(GAUGE, 3, 4);
         x.update(2, 10);
-        momentsAre(x, -1, NONE, NONE, 10, 10, NONE);
+        due.moments(x, -1, NONE, NONE, 10, 10, NONE);
         x.update(6, -1000);
-        momentsAre(x, 1, 10, 10, -1000, -1000, -1000, -1000, NONE);
+        due.moments(x, 1, 10, 10, -1000, -1000, -1000, -1000, NONE);
         x.update(11, 3);
-        momentsAre(x, 6, -1000, UNKNOWN, UNKNOWN, UNKNOWN, UNKNOWN, UNKNOWN, NONE);
+        due.moments(x, 6, -1000, UNKNOWN, UNKNOWN, UNKNOWN, UNKNOWN, UNKNOWN, NONE);
         x.update(12, 0);
-        momentsAre(x, 11, UNKNOWN, 0, NONE);
+        due.moments(x, 11, UNKNOWN, 0, NONE);
         for (int t : Due.FAR) {
             due.is("moment(" + t + ")", x.moment(t), NONE);
         }
@@ -287,42 +267,42 @@ public final class PromisesTest {
     private static void promise5Counter() {
         RoundArchive x = new RoundArchive(COUNTER, 3, 10);
         x.update(3, 100);
-        momentsAre(x, 1, 33, 33, 34, NONE);
+        due.moments(x, 1, 33, 33, 34, NONE);
         // The wheel goes 246 on, past 255.
         x.update(10, 90);
-        momentsAre(x, 4, 35, 35, 35, 35, 35, 35, 36, NONE);
+        due.moments(x, 4, 35, 35, 35, 35, 35, 35, 36, NONE);
         x.update(12, 90);
-        momentsAre(x, 11, 0, 0, NONE);
+        due.moments(x, 11, 0, 0, NONE);
         x.update(22, 95);
-        momentsAre(x, 13, 0, 1, 0, 1, 0, 1, 0, 1, 0, 1, NONE);
+        due.moments(x, 13, 0, 1, 0, 1, 0, 1, 0, 1, 0, 1, NONE);
         x.update(24, 94);
-        momentsAre(x, 23, 127, 128, NONE);
+        due.moments(x, 23, 127, 128, NONE);
         x.update(25, 255);
         x.update(26, 0);
-        momentsAre(x, 25, 161, 1, NONE);
+        due.moments(x, 25, 161, 1, NONE);
     }
 
     private static void promise5CounterAfterUnknown() {
         RoundArchive x = new RoundArchive(COUNTER, 3, 2);
         x.update(3, 200);
-        momentsAre(x, 1, UNKNOWN, UNKNOWN, UNKNOWN);
+        due.moments(x, 1, UNKNOWN, UNKNOWN, UNKNOWN);
         x.update(4, 205);
-        momentsAre(x, 3, UNKNOWN, 5, NONE);
+        due.moments(x, 3, UNKNOWN, 5, NONE);
         x.update(10, 7);
         x.update(11, 6);
-        momentsAre(x, 10, UNKNOWN, 255, NONE);
+        due.moments(x, 10, UNKNOWN, 255, NONE);
     }
 
     private static void promise5ThirtyBack() {
         RoundArchive x = new RoundArchive(GAUGE, 1, 30);
         x.update(30, 1);
         x.update(31, 2);
-        momentsAre(x, 0, NONE, 1, 1);
+        due.moments(x, 0, NONE, 1, 1);
         x.update(32, 3);
-        momentsAre(x, 0, NONE, NONE, 1);
+        due.moments(x, 0, NONE, NONE, 1);
         x.update(240, 4);
-        momentsAre(x, 208, NONE, NONE, UNKNOWN, UNKNOWN);
-        momentsAre(x, 239, UNKNOWN, UNKNOWN, NONE, NONE);
+        due.moments(x, 208, NONE, NONE, UNKNOWN, UNKNOWN);
+        due.moments(x, 239, UNKNOWN, UNKNOWN, NONE, NONE);
     }
 
     private static void promise6() {
@@ -340,25 +320,25 @@ public final class PromisesTest {
 
     private static void promise7() {
         RoundArchive x = new RoundArchive(GAUGE, 2, 3);
-        feed(x, 3);
+        due.feed(x, 3);
         due.is("lastStep(), none complete", x.lastStep(), NONE);
-        feed(x, 4);
+        due.feed(x, 4);
         due.is("lastStep() of 3, 4", x.lastStep(), 3);
-        feed(x, -1);
+        due.feed(x, -1);
         due.is("lastStep() stays", x.lastStep(), 3);
-        feed(x, -2);
+        due.feed(x, -2);
         due.is("lastStep() of -1, -2", x.lastStep(), -2);
-        feed(x, -1, 0);
+        due.feed(x, -1, 0);
         due.is("lastStep() of -1, 0", x.lastStep(), -1);
-        feed(x, -4, -2);
+        due.feed(x, -4, -2);
         due.is("lastStep() of -4, -2", x.lastStep(), -3);
-        feed(x, 1000, 1000);
+        due.feed(x, 1000, 1000);
         due.is("lastStep() of 1000, 1000", x.lastStep(), 1000);
-        feed(x, -1000, -1000);
+        due.feed(x, -1000, -1000);
         due.is("lastStep() of -1000, -1000", x.lastStep(), -1000);
         x.update(17, 9);
         due.is("lastStep() of unknown moments", x.lastStep(), UNKNOWN);
-        feed(x, 9);
+        due.feed(x, 9);
         due.is("lastStep(), one of two unknown", x.lastStep(), 9);
     }
 
@@ -384,7 +364,7 @@ public final class PromisesTest {
 
     private static void promise8() {
         for (int span = 1; span <= 4; span++) {
-            RoundArchive x = shaped(2, 1, Due.packed(span, 0, 0, 1));
+            RoundArchive x = due.shaped(2, 1, Due.packed(span, 0, 0, 1));
             for (int t = 1; t <= 240; t++) {
                 x.update(t, 0);
                 due.is("span " + span + ", time " + t + ": rows(0)", x.rows(0), t / (2 * span));
@@ -406,19 +386,19 @@ public final class PromisesTest {
             {7, -6, 2, -4, -1, -6, 7, -4}, {-5, -5, -5, -6, -6, -6, -5, -6}, {1000, 1000, 1000, 1000, 1000, 1000, 1000, 1000},
             {-1000, -1000, -1000, -1000, -1000, -1000, -1000, -1000}, {0, 0, 0, -1, -1, -1, 0, -1}};
         for (int rule = 0; rule < 4; rule++) {
-            RoundArchive x = shaped(1, 1, Due.packed(4, rule, 0, 8));
+            RoundArchive x = due.shaped(1, 1, Due.packed(4, rule, 0, 8));
             for (int[] row : valuesAndRows) {
-                feed(x, row[0], row[1], row[2], row[3]);
+                due.feed(x, row[0], row[1], row[2], row[3]);
             }
             for (int r = 0; r < valuesAndRows.length; r++) {
                 due.is("rule " + rule + ": row(0, " + r + ")", x.row(0, r), valuesAndRows[r][4 + rule]);
             }
         }
         // A row is made of the rounded values of its steps, not of their moments.
-        RoundArchive x = shaped(2, 1, Due.packed(2, RoundArchive.MEAN, 0, 1));
-        feed(x, 1, 2, 2, 3);
+        RoundArchive x = due.shaped(2, 1, Due.packed(2, RoundArchive.MEAN, 0, 1));
+        due.feed(x, 1, 2, 2, 3);
         due.is("MEAN of 1 and 2", x.row(0, 0), 1);
-        feed(x, 0, -1, 1, 0);
+        due.feed(x, 0, -1, 1, 0);
         due.is("MEAN of -1 and 0", x.row(0, 1), -1);
     }
 
@@ -433,16 +413,16 @@ public final class PromisesTest {
                 }
             }
         }
-        RoundArchive x = shaped(1, 1, Due.packed(4, RoundArchive.MEAN, 2, 1));
-        feed(x, -7);
+        RoundArchive x = due.shaped(1, 1, Due.packed(4, RoundArchive.MEAN, 2, 1));
+        due.feed(x, -7);
         x.update(3, 500);
-        feed(x, -4);
+        due.feed(x, -4);
         due.is("MEAN of the known ones, -7 and -4", x.row(0, 0), -6);
     }
 
     /** Row 1 has its unknown steps first: the gap begins at the last step of row 0. */
     private static void unknownAtBeginning(int packed, int span, int unknown, int tolerance) {
-        RoundArchive x = shaped(1, 1, packed);
+        RoundArchive x = due.shaped(1, 1, packed);
         for (int t = 1; t < span; t++) {
             x.update(t, 600);
         }
@@ -456,7 +436,7 @@ public final class PromisesTest {
 
     /** Row 0 has its unknown steps last: the gap ends at the first step of row 1. */
     private static void unknownAtEnd(int packed, int span, int unknown, int tolerance) {
-        RoundArchive x = shaped(1, 1, packed);
+        RoundArchive x = due.shaped(1, 1, packed);
         for (int t = 1; t <= span - unknown; t++) {
             x.update(t, -30);
         }
@@ -467,7 +447,7 @@ public final class PromisesTest {
 
     private static void promise9Kept() {
         for (int room = 1; room <= 8; room++) {
-            RoundArchive x = shaped(1, 1, Due.packed(2, RoundArchive.LAST, 0, room));
+            RoundArchive x = due.shaped(1, 1, Due.packed(2, RoundArchive.LAST, 0, room));
             for (int t = 1; t <= 23; t++) {
                 x.update(t, t);
             }
@@ -482,28 +462,28 @@ public final class PromisesTest {
                 due.is("row(" + a + ", 10)", x.row(a, 10), NONE);
             }
         }
-        RoundArchive x = shaped(1, 1, Due.packed(1, 0, 0, 8));
-        feed(x, 5, 6);
+        RoundArchive x = due.shaped(1, 1, Due.packed(1, 0, 0, 8));
+        due.feed(x, 5, 6);
         due.is("room for more than there is: row(0, -1)", x.row(0, -1), NONE);
         due.is("room for more than there is: row(0, 0)", x.row(0, 0), 5);
         due.is("room for more than there is: row(0, 2)", x.row(0, 2), NONE);
     }
 
     private static void promise10() {
-        RoundArchive x = shaped(1, 1, Due.packed(1, 0, 0, 3));
+        RoundArchive x = due.shaped(1, 1, Due.packed(1, 0, 0, 3));
         due.is("peak(0), no row", x.peak(0), UNKNOWN);
-        feed(x, -1000);
+        due.feed(x, -1000);
         due.is("peak(0), the least value", x.peak(0), -1000);
-        feed(x, -5, -9);
+        due.feed(x, -5, -9);
         due.is("peak(0), the middle one", x.peak(0), -5);
-        feed(x, -7, -8);
+        due.feed(x, -7, -8);
         due.is("peak(0), the greatest went out", x.peak(0), -7);
         due.is("peak(1), kept longer", x.peak(1), -5);
         x.update(7, 1000);
         due.is("peak(0), one known", x.peak(0), -8);
         x.update(10, 1000);
         due.is("peak(0), none known", x.peak(0), UNKNOWN);
-        feed(x, 4);
+        due.feed(x, 4);
         due.is("peak(0), the last known", x.peak(0), 4);
         for (int a : Due.NO_ARCHIVE) {
             due.is("peak(" + a + ")", x.peak(a), NONE);
@@ -511,11 +491,11 @@ public final class PromisesTest {
     }
 
     private static void promise11() {
-        RoundArchive x = shaped(1, 1, Due.packed(1, 0, 0, 3));
+        RoundArchive x = due.shaped(1, 1, Due.packed(1, 0, 0, 3));
         due.is("known(0), no row", x.known(0), 0);
-        feed(x, 0);
+        due.feed(x, 0);
         due.is("known(0), one row", x.known(0), 1);
-        feed(x, -1, 1, 7);
+        due.feed(x, -1, 1, 7);
         due.is("known(0), one went out", x.known(0), 3);
         due.is("known(1), room for one more", x.known(1), 4);
         x.update(6, 1);
@@ -523,7 +503,7 @@ public final class PromisesTest {
         due.is("known(1), two unknown", x.known(1), 2);
         x.update(8, 1);
         due.is("known(0), all unknown", x.known(0), 0);
-        feed(x, 3, 3);
+        due.feed(x, 3, 3);
         due.is("known(0), two again", x.known(0), 2);
         for (int a : Due.NO_ARCHIVE) {
             due.is("known(" + a + ")", x.known(a), 0);
@@ -547,17 +527,17 @@ public final class PromisesTest {
     private static void promise13() {
         RoundArchive x = new RoundArchive(GAUGE, 4, 2);
         due.is("pendingSum() at first", x.pendingSum(), 0);
-        feed(x, 5);
+        due.feed(x, 5);
         due.is("pendingSum() of 5", x.pendingSum(), 5);
         x.update(3, -1000);
         due.is("pendingSum() of 5, -1000, -1000", x.pendingSum(), -1995);
-        feed(x, 1);
+        due.feed(x, 1);
         due.is("pendingSum(), the step is complete", x.pendingSum(), 0);
-        feed(x, 2);
+        due.feed(x, 2);
         due.is("pendingSum() of the next step", x.pendingSum(), 2);
         x.update(10, 9);
         due.is("pendingSum(), all unknown", x.pendingSum(), 0);
-        feed(x, -3);
+        due.feed(x, -3);
         due.is("pendingSum(), two unknown and -3", x.pendingSum(), -3);
         RoundArchive wheel = new RoundArchive(COUNTER, 6, 10);
         wheel.update(9, 100);
