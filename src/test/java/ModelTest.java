@@ -7,6 +7,7 @@ import java.util.List;
  */
 public final class ModelTest {
     private static final int OBJECTS = 4000;
+    /** What an object answers after so many calls is free. */
     private static final int CALLS = 512;
     private static final Due due = new Due();
     private static long seed = 20261115L;
@@ -49,7 +50,7 @@ public final class ModelTest {
 
     private static void ask(String name, RoundArchive x, Model m) {
         int a = number(0, 9) == 0 ? number(-1, 2) : number(0, 1);
-        switch (number(0, 10)) {
+        switch (number(0, 11)) {
             case 0 -> due.is(name + "lastTime()", x.lastTime(), m.time());
             case 1, 2 -> {
                 int t = m.time() - number(-2, 33);
@@ -64,10 +65,8 @@ public final class ModelTest {
             }
             case 8 -> due.is(name + "peak(" + a + ")", x.peak(a), m.peak(a));
             case 9 -> due.is(name + "known(" + a + ")", x.known(a), m.known(a));
-            default -> {
-                due.is(name + "pending()", x.pending(), m.step.size());
-                due.is(name + "pendingSum()", x.pendingSum(), Model.sum(Model.knownOf(m.step)));
-            }
+            case 10 -> due.is(name + "pending()", x.pending(), m.step.size());
+            default -> due.is(name + "pendingSum()", x.pendingSum(), Model.sum(Model.knownOf(m.step)));
         }
     }
 
