@@ -1,3 +1,4 @@
+import java.nio.file.Path;
 import java.util.ArrayList;
 import java.util.List;
 
@@ -9,9 +10,28 @@ final class Due {
     /** Numbers that name no archive. */
     static final int[] NO_ARCHIVE = {-1, 2, 3, Integer.MIN_VALUE, Integer.MAX_VALUE};
 
+    /** Far more than any test needs, so that only a call that doesn't end takes so long. */
+    private static final int SECONDS = 300;
+
     private String sentence = "";
     private int looked = 0;
     private int wrong = 0;
+
+    Due() {
+        Thread watch = new Thread(Due::endLate);
+        watch.setDaemon(true);
+        watch.start();
+    }
+
+    private static void endLate() {
+        try {
+            Thread.sleep(SECONDS * 1000L);
+        } catch (InterruptedException stopped) {
+            return;
+        }
+        System.out.println("not at its end after " + SECONDS + " seconds");
+        Runtime.getRuntime().halt(1);
+    }
 
     /** The test of one sentence of the document: what goes wrong in it is printed with it, and the others still run. */
     void test(String words, Runnable body) {
@@ -83,6 +103,11 @@ final class Due {
         if (wrong != 0 || looked == 0) {
             System.exit(1);
         }
+    }
+
+    /** The folder of the project, which .ci/run tells. */
+    static Path project() {
+        return Path.of(System.getProperty("project", "."));
     }
 
     static int packed(int span, int rule, int tolerance, int room) {

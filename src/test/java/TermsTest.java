@@ -1,6 +1,6 @@
 import java.util.Arrays;
 
-/** The sentences under 'Terms' that name a boundary, each with a test of its own. */
+/** The sentences under 'Terms', each with a test of its own. */
 public final class TermsTest {
     private static final int UNKNOWN = -100000;
     private static final int NONE = -200000;
@@ -15,23 +15,183 @@ public final class TermsTest {
     private static final Due due = new Due();
 
     public static void main(String[] args) {
+        due.test("the moments since the update before it (or since time 0, if there is none)", TermsTest::sinceTheUpdateBefore);
         due.test(HEARTBEAT + " (since time 0)", TermsTest::heartbeatSinceTheStart);
         due.test(HEARTBEAT + " (since an update)", TermsTest::heartbeatSinceAnUpdate);
         due.test(HEARTBEAT + " (since an update that came late itself)", TermsTest::heartbeatSinceALateUpdate);
+        due.test("a GAUGE (kind 0): each of them has the value v of the update", TermsTest::eachHasTheValue);
         due.test("a wheel that goes from 255 on to 0", TermsTest::wheelGoesOn);
         due.test("the wheel was at 0 at time 0", TermsTest::wheelAtFirst);
         due.test("both quotients rounded down", TermsTest::quotientsRoundedDown);
         due.test("When moments are unknown the state v still counts for the next update.", TermsTest::wheelAfterUnknown);
+        due.test("Moments after the last update have no value yet.", TermsTest::momentsAfterTheLast);
+        due.test("step k (0, 1, ..) has the moments k * width + 1 .. (k + 1) * width", TermsTest::momentsOfAStep);
+        due.test("It is COMPLETE when the last update is at its last moment or later.", TermsTest::completeStep);
         due.test(HALF + " (its first ones)", TermsTest::halfUnknownFirst);
         due.test(HALF + " (its last ones)", TermsTest::halfUnknownLast);
         due.test(HALF + " (between known ones)", TermsTest::halfUnknownBetween);
         due.test(DOWN + " (a step)", TermsTest::stepRoundedDown);
         due.test("the sum of its known moments' values divided by their number, " + DOWN, TermsTest::stepOfTheKnownOnes);
+        due.test("There are two ARCHIVES 0 and 1, each with a number of steps in a row", TermsTest::twoArchives);
+        due.test("ROW r (0, 1, ..) of an archive has the steps r * span .. (r + 1) * span - 1", TermsTest::stepsOfARow);
+        due.test("complete when they all are", TermsTest::completeRow);
+        due.test("Its value is made of the values of its known steps by the rule", TermsTest::valueByTheRule);
         due.test(DOWN + " (a row by MEAN)", TermsTest::rowRoundedDown);
         due.test("when at most tolerance of its steps are not known and at least one is", TermsTest::toleranceAndAtLeastOne);
         due.test("that of the last known step", TermsTest::lastKnownStep);
         due.test("An archive keeps its last complete rows, as many as it has room for.", TermsTest::lastCompleteRows);
         due.end();
+    }
+
+    private static void sinceTheUpdateBefore() {
+        RoundArchive x = new RoundArchive(GAUGE, 1, 30);
+        x.update(4, 7);
+        allMoments(x, 1, 4, 7);
+        x.update(5, 8);
+        due.moments(x, 3, 7, 7, 8, NONE);
+        // A refused update is none: the moments go back to the one that was taken.
+        x.update(9, 1001);
+        x.update(5, 3);
+        x.update(12, 9);
+        due.moments(x, 4, 7, 8);
+        allMoments(x, 6, 12, 9);
+        RoundArchive wheel = new RoundArchive(COUNTER, 1, 30);
+        wheel.update(2, 4);
+        wheel.update(4, 256);
+        wheel.update(6, 16);
+        due.moments(wheel, 1, 2, 2, 3, 3, 3, 3, NONE);
+    }
+
+    private static void eachHasTheValue() {
+        for (int v : new int[] {-1000, -1, 0, 1, 1000}) {
+            for (int length : new int[] {1, 2, 29, 30}) {
+                RoundArchive x = new RoundArchive(GAUGE, 1, 30);
+                due.feed(x, 17);
+                x.update(1 + length, v);
+                due.is("moment(1)", x.moment(1), 17);
+                allMoments(x, 2, 1 + length, v);
+            }
+        }
+    }
+
+    private static void momentsAfterTheLast() {
+        RoundArchive x = new RoundArchive(GAUGE, 6, 30);
+        due.feed(x, 60);
+        due.moments(x, 1, 60, NONE, NONE, NONE, NONE, NONE, NONE);
+        due.is("pending()", x.pending(), 1);
+        due.is("pendingSum()", x.pendingSum(), 60);
+        due.is("lastStep()", x.lastStep(), NONE);
+        x.update(8, 30);
+        due.moments(x, 7, 30, 30, NONE, NONE);
+        due.is("pending() of the next step", x.pending(), 2);
+        due.is("pendingSum() of the next step", x.pendingSum(), 60);
+        due.is("lastStep(), the complete one", x.lastStep(), 35);
+    }
+
+    /** Moment t has the value t and step k is the last one there is: its mean tells which moments it has. */
+    private static void momentsOfAStep() {
+        for (int width = 1; width <= 6; width++) {
+            RoundArchive x = new RoundArchive(GAUGE, width, 1);
+            for (int t = 1; t <= 240; t++) {
+                x.update(t, t);
+                if (t % width == 0) {
+                    due.is("width " + width + ", step " + (t / width - 1) + ": lastStep()", x.lastStep(), t - width / 2);
+                }
+            }
+        }
+    }
+
+    private static void completeStep() {
+        for (int width = 2; width <= 6; width++) {
+            RoundArchive x = new RoundArchive(GAUGE, width, 30);
+            x.update(width - 1, 5);
+            due.is("width " + width + ": steps(), before its last moment", x.steps(), 0);
+            x.update(width, 5);
+            due.is("width " + width + ": steps(), at its last moment", x.steps(), 1);
+            RoundArchive later = new RoundArchive(GAUGE, width, 30);
+            later.update(width - 1, 5);
+            later.update(width + 1, 5);
+            due.is("width " + width + ": steps(), later", later.steps(), 1);
+            due.is("width " + width + ": lastStep(), later", later.lastStep(), 5);
+            due.is("width " + width + ": pending(), later", later.pending(), 1);
+            RoundArchive far = new RoundArchive(GAUGE, width, 30);
+            far.update(3 * width + 1, 5);
+            due.is("width " + width + ": steps(), later than three", far.steps(), 3);
+        }
+    }
+
+    private static void twoArchives() {
+        RoundArchive x = new RoundArchive(GAUGE, 2, 1);
+        due.is("shape(0)", x.shape(0, Due.packed(2, RoundArchive.LOW, 0, 3)), true);
+        due.is("shape(1)", x.shape(1, Due.packed(3, RoundArchive.HIGH, 1, 2)), true);
+        Due.feedSteps(x, 4, 9, UNKNOWN, 3, 8, 5, 6, 2, 7);
+        due.is("rows(0)", x.rows(0), 4);
+        due.rows(x, 0, 0, NONE, UNKNOWN, 5, 2, NONE);
+        due.is("peak(0)", x.peak(0), 5);
+        due.is("known(0)", x.known(0), 2);
+        due.is("rows(1)", x.rows(1), 3);
+        due.rows(x, 1, 0, NONE, 8, 7, NONE);
+        due.is("peak(1)", x.peak(1), 8);
+        due.is("known(1)", x.known(1), 2);
+    }
+
+    /** Step k has the value k and row r is the last one there is: the least, the greatest and the last tell which steps it has. */
+    private static void stepsOfARow() {
+        for (int width = 1; width <= 6; width++) {
+            for (int span = 1; span <= 4; span++) {
+                RoundArchive x = new RoundArchive(GAUGE, width, width);
+                due.is("shape(0)", x.shape(0, Due.packed(span, RoundArchive.LOW, 0, 1)), true);
+                due.is("shape(1)", x.shape(1, Due.packed(span, RoundArchive.HIGH, 0, 1)), true);
+                for (int k = 0; k < Math.min(160, 240 / width); k++) {
+                    x.update((k + 1) * width, k);
+                    int r = (k + 1) / span - 1;
+                    due.is("width " + width + ", span " + span + ": row(0, " + r + ")", x.row(0, r), r < 0 ? NONE : r * span);
+                    due.is("width " + width + ", span " + span + ": row(1, " + r + ")", x.row(1, r), r < 0 ? NONE : r * span + span - 1);
+                }
+            }
+        }
+    }
+
+    private static void completeRow() {
+        for (int span = 2; span <= 4; span++) {
+            RoundArchive x = due.shaped(2, 1, Due.packed(span, RoundArchive.HIGH, 3, 8));
+            for (int k = 1; k < span; k++) {
+                Due.feedSteps(x, k);
+                due.is("span " + span + ", " + k + " steps: rows(0)", x.rows(0), 0);
+                due.is("span " + span + ", " + k + " steps: row(0, 0)", x.row(0, 0), NONE);
+            }
+            due.feed(x, 9);
+            due.is("span " + span + ", the last step is not complete: rows(0)", x.rows(0), 0);
+            due.feed(x, 9);
+            due.is("span " + span + ": rows(0)", x.rows(0), 1);
+            due.is("span " + span + ": row(0, 0)", x.row(0, 0), 9);
+        }
+        // A step that is not known is complete all the same.
+        RoundArchive unknown = due.shaped(2, 1, Due.packed(2, RoundArchive.HIGH, 3, 8));
+        Due.feedSteps(unknown, UNKNOWN, UNKNOWN);
+        due.is("unknown steps: rows(0)", unknown.rows(0), 1);
+        due.is("unknown steps: row(0, 0)", unknown.row(0, 0), UNKNOWN);
+    }
+
+    /** Every four steps of these values, the unknown ones among them, by each rule. */
+    private static void valueByTheRule() {
+        int[] values = {UNKNOWN, -7, 0, 4};
+        for (int i = 0; i < 256; i++) {
+            int[] steps = {values[i & 3], values[i >> 2 & 3], values[i >> 4 & 3], values[i >> 6]};
+            int[] known = Arrays.stream(steps).filter(v -> v != UNKNOWN).toArray();
+            if (known.length > 0) {
+                ruleOf(RoundArchive.MEAN, Math.floorDiv(Arrays.stream(known).sum(), known.length), steps);
+                ruleOf(RoundArchive.LOW, Arrays.stream(known).min().getAsInt(), steps);
+                ruleOf(RoundArchive.HIGH, Arrays.stream(known).max().getAsInt(), steps);
+                ruleOf(RoundArchive.LAST, known[known.length - 1], steps);
+            }
+        }
+    }
+
+    private static void ruleOf(int rule, int want, int... steps) {
+        RoundArchive x = due.shaped(2, 1, Due.packed(4, rule, 3, 1));
+        Due.feedSteps(x, steps);
+        due.is("rule " + rule + ": row(0, 0) of " + Arrays.toString(steps), x.row(0, 0), want);
     }
 
     private static void heartbeatSinceTheStart() {
