@@ -55,9 +55,14 @@ public final class EndsTest {
     private static int allOnce(RoundArchive x) {
         x.shape(1, Due.packed(3, RoundArchive.LAST, 2, 1));
         x.update(7, 7);
+        return askAll(x);
+    }
+
+    /** What a call has left behind may throw only later. */
+    private static int askAll(RoundArchive x) {
         int sum = 0;
-        for (int method = 0; method < METHODS; method++) {
-            sum += call(x, method, 1, 1);
+        for (int method = 2; method < METHODS; method++) {
+            sum += call(x, method, 0, 0) + call(x, method, 1, 1);
         }
         return sum;
     }
@@ -69,21 +74,30 @@ public final class EndsTest {
                 for (int second : EDGES) {
                     RoundArchive x = maker.get();
                     int m = method;
-                    comesBack(state + ": " + name(method, first, second), () -> call(x, m, first, second));
+                    comesBack(state + ": " + name(method, first, second) + " and all others", () -> {
+                        call(x, m, first, second);
+                        return askAll(x);
+                    });
                 }
             }
         }
     }
 
     private static void longRuns() {
-        for (int i = 0; i < 400; i++) {
-            RoundArchive x = new RoundArchive(argument(), argument(), argument());
-            for (int n = 1; n <= 3000; n++) {
-                int method = number(METHODS);
-                int first = method == 1 && number(3) == 0 ? x.lastTime() + 1 + number(9) : argument();
-                int second = argument();
-                comesBack("call " + n + ": " + name(method, first, second), () -> call(x, method, first, second));
-            }
+        for (int i = 0; i < 600; i++) {
+            longRun(new RoundArchive(argument(), argument(), argument()), 1000);
+        }
+        for (int i = 0; i < 20; i++) {
+            longRun(new RoundArchive(argument(), argument(), argument()), 40000);
+        }
+    }
+
+    private static void longRun(RoundArchive x, int calls) {
+        for (int n = 1; n <= calls; n++) {
+            int method = number(METHODS);
+            int first = method == 1 && number(3) == 0 ? x.lastTime() + 1 + number(9) : argument();
+            int second = argument();
+            comesBack("call " + n + ": " + name(method, first, second), () -> call(x, method, first, second));
         }
     }
 

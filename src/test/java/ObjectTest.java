@@ -1,4 +1,5 @@
 import java.util.List;
+import java.util.function.Supplier;
 import java.util.function.ToIntFunction;
 
 /**
@@ -98,24 +99,39 @@ public final class ObjectTest {
         }
     }
 
-    /** Each of them on one of two twins many times, and on the other not once. */
     private static void askingChangesNothing() {
         for (Asked asked : ASKED) {
-            RoundArchive x = made();
-            RoundArchive twin = made();
-            for (int n = 0; n < 50; n++) {
-                asked.call.applyAsInt(x);
-            }
-            due.is("after " + asked.name + ": all", Due.answers(x), Due.answers(twin));
-            Due.feedSteps(x, 3, UNKNOWN, 8);
-            Due.feedSteps(twin, 3, UNKNOWN, 8);
-            due.is("after " + asked.name + " and more updates: all", Due.answers(x), Due.answers(twin));
+            askingChangesNothing(asked, ObjectTest::made);
+            askingChangesNothing(asked, ObjectTest::madeWheel);
             // Nor does asking end the time in which an archive can be shaped.
             RoundArchive open = new RoundArchive(0, 2, 1);
             asked.call.applyAsInt(open);
             due.is("shape(0) after " + asked.name, open.shape(0, Due.packed(2, 0, 0, 2)), true);
             due.is("shape(1) after " + asked.name, open.shape(1, Due.packed(2, 0, 0, 2)), true);
         }
+    }
+
+    /** One of two twins is asked many times, the other one not once. */
+    private static void askingChangesNothing(Asked asked, Supplier<RoundArchive> maker) {
+        RoundArchive x = maker.get();
+        RoundArchive twin = maker.get();
+        for (int n = 0; n < 50; n++) {
+            asked.call.applyAsInt(x);
+        }
+        due.is("after " + asked.name + ": all", Due.answers(x), Due.answers(twin));
+        Due.feedSteps(x, 3, UNKNOWN, 8);
+        Due.feedSteps(twin, 3, UNKNOWN, 8);
+        due.is("after " + asked.name + " and more updates: all", Due.answers(x), Due.answers(twin));
+    }
+
+    /** Known and unknown moments in every place, the step after the complete ones included. */
+    private static RoundArchive madeWheel() {
+        RoundArchive x = new RoundArchive(1, 5, 3);
+        x.shape(1, Due.packed(2, RoundArchive.LAST, 1, 3));
+        for (int t : new int[] {2, 6, 7, 9, 10, 13, 14, 19, 20, 21, 25, 27, 29}) {
+            x.update(t, 37 * t % 256);
+        }
+        return x;
     }
 
     private static void anAnswerStays() {
