@@ -28,8 +28,9 @@ import javax.tools.ToolProvider;
 /**
  * The rules of LANGUAGE.md that the text of the program can break, looked for in the tree that javac makes of
  * it (FaceTest looks at the members, EndsTest at rule 7). In places the test is narrower than the rule, because
- * the plain form is easier to see: arrays are made in fields' initialisers alone, and loops are counted for
- * loops alone. A change of the program that needs more of the rule has to widen the test.
+ * the plain form is easier to see: arrays are made in fields' initialisers alone, no variable changes to another
+ * array, no block stands beside the methods, and loops are counted for loops alone. A change of the program that
+ * needs more of the rule has to widen the test.
  */
 public final class LanguageTest {
     private static final int MOST_LINES = 60;
